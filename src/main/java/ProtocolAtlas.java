@@ -727,7 +727,13 @@ public final class ProtocolAtlas {
             }
         }
 
-        /** Whether the agent could go by this row; the world is then the next one, else it is spoilt. */
+        /** Whether the row speaks of such an agent and such a home at all. */
+        boolean isFor(World world, int agent) {
+            int code = world.code[agent];
+            return atHome ? world.home == from && held(code, 3) == with : held(code, 0) == from;
+        }
+
+        /** Whether the agent that it is for can go by this row; the world is then the next one, else it is spoilt. */
         boolean go(World world, int agent, boolean loose) {
             return atHome ? serve(world, agent, loose) : step(world, agent, loose);
         }
@@ -737,9 +743,6 @@ public final class ProtocolAtlas {
             int first = held(code, 1);
             int second = held(code, 2);
             int out = held(code, 3);
-            if (held(code, 0) != from) {
-                return false;
-            }
             if (with != NONE) {
                 boolean firstGoes = first == with;
                 if (!firstGoes && !(loose && second == with)) {
@@ -760,9 +763,6 @@ public final class ProtocolAtlas {
 
         private boolean serve(World world, int agent, boolean loose) {
             int code = world.code[agent];
-            if (world.home != from || held(code, 3) != with) {
-                return false;
-            }
             if (others != NONE && world.hasOther(agent, others) != some) {
                 return false;
             }
@@ -879,7 +879,11 @@ public final class ProtocolAtlas {
             return false;
         }
 
+        /** Whether the move can be; the next world is then the one to which it leads. */
         boolean go(World world, int rule, int agent, World next) {
+            if (!row[rule].isFor(world, agent)) {
+                return false;
+            }
             next.copy(world);
             return row[rule].go(next, agent, loose);
         }
@@ -1008,7 +1012,7 @@ public final class ProtocolAtlas {
             int tokens = 0;
             int ended = NONE;
             int k = 0;
-            while (k < text.size()) {
+            for (int i = 0; i < TAPE_MOST && k < text.size(); i++) {
                 int length = 1;
                 if (!isBlank(text.get(k))) {
                     boolean isSign = take(text, k, tokens);
