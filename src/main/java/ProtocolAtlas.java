@@ -1005,7 +1005,9 @@ public final class ProtocolAtlas {
         }
 
         private boolean unexpected() {
-            return refuse(UNEXPECTED, start[at]);
+            fault = UNEXPECTED;
+            place = start[at];
+            return false;
         }
 
         private void scan(Bytes text) {

@@ -209,6 +209,14 @@ public final class FaultTest {
         bad(text, 6, text.length());
         bad(text + "  ", 6, text.length() + 2);
         bad(text + "x", 1, text.length());
+        String just = "agents 3 states a,b,c;home s;messages m;at s with m to s replies m tells m;on c to b;"
+                + "on c with m to c sends m;on a to c;on c to a;on c to c;on b to c sends m;";
+        good(just, 10);
+        due.is("has(5)", Due.of(just).has(5), 600);
+        String oneMore = "agents 3 states a,b,c,d;home s,t;messages m,n;at s with m to s tells m;"
+                + "on b with m to c sends n;on b with m to a;on a to c sends n;on a to a;on a to b sends m;"
+                + "at s with m to t;";
+        bad(oneMore, 6, oneMore.length());
     }
 
     /** With a fault all stays, but the tape goes. */
