@@ -12,6 +12,7 @@ public final class FaultTest {
         names();
         oneTooMany();
         statements();
+        longTexts();
         tooManyWorlds();
         whatStays();
         byChance(args.length > 0 ? Integer.parseInt(args[0]) : 20000, 5);
@@ -178,6 +179,22 @@ public final class FaultTest {
         bad(many + "order kept;", 5, many.length());
         bad(many + " ?", 5, many.length() + 1);
         bad(many + "agents", 5, many.length());
+    }
+
+    /** The tape is full, with as many tokens as there can be, and with as long ones. */
+    private static void longTexts() {
+        bad(";".repeat(1600), 1, 0);
+        bad("7".repeat(1600), 1, 0);
+        bad("a".repeat(1600), 1, 0);
+        bad("a7".repeat(800), 1, 0);
+        bad(" ".repeat(1600), 1, 1600);
+        bad("agents 2 states " + "b".repeat(1584), 1, 22);
+        bad("agents " + "2".repeat(1593), 1, 8);
+        good("agents 2 states i;" + " ".repeat(1582), 1);
+        good(" ".repeat(1582) + "agents 2 states i;", 1);
+        bad("agents 2 states i;" + ";".repeat(1582), 1, 18);
+        bad("agents 2 states " + "a".repeat(12) + "agents", 1, 22);
+        bad("a".repeat(12) + "agents 2 states i;", 1, 0);
     }
 
     private static void statements() {

@@ -477,6 +477,8 @@ public final class PromiseTest {
         due.is("without(4, 0)", y.without(4, 0), 9);
         due.is("without(4, 3)", y.without(4, 3), 2);
         due.is("without(4, 4)", y.without(4, 4), 6);
+        due.is("without(0, 3)", y.without(0, 3), 1);
+        due.is("without(1, 0)", y.without(1, 0), 5);
         Due.feed(y, TOGGLE);
         y.table();
         due.is("of the latest table", y.without(0, 0), 1);
@@ -841,7 +843,7 @@ public final class PromiseTest {
             due.is("the tape went", x.feed(0, 0, 0, 0, 0), 20);
             x.end(0);
         }
-        String[] bad = {"", "free", "free i", "free i i ", " free i i", "free  i i", "free w!req i", "busy i i",
+        String[] bad = {"", "free", "xree i i", "free i", "free i j", "free i i ", " free i i", "free  i i", "free w!req i", "busy i i",
             "free i i i", "free i x", "- i i", "free i w!req;", "busy i w< ok>", "busy i w<ok,>"};
         for (String text : bad) {
             Due.feed(x, text);
@@ -924,6 +926,9 @@ public final class PromiseTest {
             imageOf(0, 0, 255, 255, 254, 0, 255, 255, 255), imageOf(255, 0, 255, 255, 255, 0, 255, 255, 255),
             imageOf(2, 0, 255, 255, 255, 0, 255, 255, 255), imageOf(0, 255, 255, 255, 255, 0, 255, 255, 255),
             imageOf(1, 1, 255, 1, 255, 0, 255, 255, 255), imageOf(0, 0, 255, 255, 255),
+            imageOf(1, 1, 0, 6, 255, 0, 255, 255, 255), imageOf(1, 0, 8, 255, 255, 0, 255, 255, 255),
+            imageOf(1, 1, 1, 255, 255, 0, 255, 254, 255), imageOf(0, 1, 255, 255, 255, 6, 255, 255, 255),
+            imageOf(0, 0, 255, 255, 255, 6, 255, 255, 255), imageOf(0, 0, 255, 255, 255, 0, 255, 255, 6),
             imageOf(0, 0, 255, 255, 255, 0, 255, 255, 255, 0, 255, 255, 255)};
         for (int[] bytes : wrong) {
             Due.feed(y, bytes);
