@@ -45,6 +45,8 @@ public final class EdgeCallTest {
         p06WithoutATable();
         p06Others();
         p06EachOfThem();
+        p06Full();
+        p06BehindALargerTable();
         p07Letters();
         p07NoneSuch();
         p08Rules();
@@ -68,6 +70,7 @@ public final class EdgeCallTest {
         p18AllStays();
         p19WithoutRules();
         p19OfLikeOnes();
+        p19ByEachInTurn();
         p20OfTheHome();
         p20NoneSuch();
         p21ZeroOrOne();
@@ -89,8 +92,10 @@ public final class EdgeCallTest {
         p27TapeGoes();
         p28NothingSeen();
         p28NoneSuch();
+        p28BehindAnotherTable();
         p29WithoutAny();
         p29Others();
+        p29AllAgents();
         p30NoneSuch();
         p31OfNone();
         p31TapeGoes();
@@ -100,6 +105,7 @@ public final class EdgeCallTest {
         p34OfThisTable();
         p34NotAnImage();
         p34NotReached();
+        p34AnyOtherByte();
         p34RefusedAllStays();
         p34NothingCanBeUndone();
         p35EachCounter();
@@ -525,6 +531,96 @@ public final class EdgeCallTest {
         }
     }
 
+    /** Just 600 folded worlds and 16 rules, of which the last nine are like the sixth. */
+    private static final String FULL = "agents 3 states a,b,c;home s;messages m;at s with m to s replies m tells m;on c to b;"
+            + "on c with m to c sends m;on a to c;on c to a;on c to c;on b to c sends m;" + "on c to c;".repeat(9)
+            + "never 3 b;wants a b;";
+
+    private static void p06Full() {
+        due.at("6 How many there are, of 600 FOLDED WORLDS and 16 RULES");
+        ProtocolAtlas x = Due.of(FULL);
+        due.is("has(4)", x.has(4), 16);
+        due.is("has(5)", x.has(5), 600);
+        ProtocolAtlas y = Due.of(FULL);
+        int worlds = 0;
+        int moves = 0;
+        int bad = 0;
+        int stuck = 0;
+        int first = NONE;
+        int firstStuck = NONE;
+        for (int w = 0; w < 600; w++) {
+            int times = y.world(w, 1);
+            worlds += times;
+            moves += times * y.world(w, 5);
+            bad += times * y.world(w, 3);
+            stuck += times * y.world(w, 4);
+            boolean threeInB = y.agent(w, 0, 0) == 1 && y.agent(w, 2, 0) == 1;
+            due.is("world(" + w + ", 3)", y.world(w, 3), threeInB ? 1 : 0);
+            first = first == NONE && threeInB ? w : first;
+            firstStuck = firstStuck == NONE && y.world(w, 5) == 0 ? w : firstStuck;
+        }
+        due.is("has(6)", x.has(6), worlds);
+        due.is("has(7)", x.has(7), y.world(599, 0));
+        due.is("has(8)", x.has(8), moves);
+        due.is("has(9)", x.has(9), bad);
+        due.is("has(10)", x.has(10), stuck);
+        due.is("first(0)", x.first(0), first);
+        due.is("first(1)", x.first(1), firstStuck);
+        int uses = 0;
+        for (int r = 0; r < 16; r++) {
+            uses += x.uses(r);
+            due.is("uses(" + r + ")", x.uses(r), r > 6 ? x.uses(5) : x.uses(r));
+            due.is("without(" + r + ", 0)", x.without(r, 0), r > 4 && r != 6 ? 600 : x.without(r, 0));
+        }
+        due.is("uses all together", uses, moves);
+        due.is("world 599 can be jumped to", x.jump(599), true);
+        due.is("could(0)", x.could(0), 599);
+        due.is("jump(600)", x.jump(600), false);
+        due.is("returns()", x.returns() > 0, true);
+        due.is("starving(0)", x.starving(0), 0);
+        due.is("starving(1)", x.starving(1) >= 0, true);
+        Due.feed(x, 0, 1);
+        due.is("see(6)", x.see(6), 1);
+        due.is("jump(0)", x.jump(0), true);
+        due.is("could(-1)", x.could(NONE) > 0, true);
+        due.is("spell(599)", x.spell(599) > 0, true);
+        Due.feed(x, Due.written(x, x.spell(599)));
+        due.is("which()", x.which(), 599);
+    }
+
+    private static void p06BehindALargerTable() {
+        due.at("6 How many there are, behind a larger table");
+        for (String larger : new String[] {FULL, ONEWAY, LOCK}) {
+            ProtocolAtlas x = Due.of(larger);
+            x.mend();
+            x.could(0);
+            Due.feed(x, TOGGLE);
+            x.table();
+            int[] toggle = {2, 2, 0, 0, 2, 3, 4, 2, 8, 0, 0, 1, 0, 0};
+            for (int what = 0; what < 14; what++) {
+                due.is("has(" + what + ")", x.has(what), toggle[what]);
+            }
+            for (int what = 0; what < 4; what++) {
+                due.is("first(" + what + ")", x.first(what), NONE);
+            }
+            due.is("returns()", x.returns(), 4);
+            due.is("starving(0)", x.starving(0), 0);
+            due.is("starving(1)", x.starving(1), 0);
+            due.is("part(0, 0)", x.part(0, 0), 3);
+            due.is("part(0, 1)", x.part(0, 1), 0);
+            due.is("part(0, 2)", x.part(0, 2), 1);
+            due.is("part(1, 0)", x.part(1, 0), NONE);
+            due.is("uses(0)", x.uses(0), 4);
+            due.is("uses(2)", x.uses(2), NONE);
+            due.is("mend()", x.mend(), 0);
+            due.is("without(1, 3)", x.without(1, 3), 1);
+            due.is("world(3, 0)", x.world(3, 0), NONE);
+            for (int w = 0; w < 3; w++) {
+                due.is("world(" + w + ", 6)", x.world(w, 6), 0);
+            }
+        }
+    }
+
     private static void p07Letters() {
         due.at("7 1 .. 26; 0 behind it");
         ProtocolAtlas x = Due.of("agents 2 states a,zz,mnop;home abcdef,b;messages uvwxyz,c,zzzzzz;");
@@ -886,6 +982,39 @@ public final class EdgeCallTest {
         // Stuck ones ahead of those who starve: without rule 1 the wish can't be had, without rule 0 all is stuck.
         due.is("STUCK ahead of STARVE", Due.of("agents 2 states a,b,c;on a to c;on c to b;on a to a;on b to b;on c to c;"
                 + "wants c b;").mend(), 0);
+    }
+
+    private static void p19ByEachInTurn() {
+        due.at("19 by BAD WORLDS, then STUCK ones, then AGENTS that STARVE; nothing else");
+        // Without rule 0 there are fewest worlds, without rule 2 none is bad.
+        ProtocolAtlas x = Due.of("agents 2 states a,b,c,x;on a to b;on b to c;on a to x;never 1 x;");
+        int[] worlds = {4, 9, 9};
+        int[] bad = {3, 5, 0};
+        for (int r = 0; r < 3; r++) {
+            due.is("without(" + r + ", 1)", x.without(r, 1), worlds[r]);
+            due.is("without(" + r + ", 2)", x.without(r, 2), bad[r]);
+        }
+        due.is("by BAD", x.mend(), 2);
+        // None is bad; stuck without rules 0, 1, 2: 1, 1, 0.
+        ProtocolAtlas y = Due.of("agents 2 states a,b;on a to b;on b to a;on b to b;wants b a;");
+        int[] stuck = {1, 0, 0};
+        int[] starve = {0, 4, 0};
+        for (int r = 0; r < 3; r++) {
+            due.is("without(" + r + ", 2)", y.without(r, 2), 0);
+            due.is("without(" + r + ", 3)", y.without(r, 3), stuck[r]);
+            due.is("without(" + r + ", 4)", y.without(r, 4), starve[r]);
+        }
+        due.is("by STUCK, then STARVE", y.mend(), 2);
+        // As many bad ones each: stuck ones tell.
+        ProtocolAtlas z = Due.of("agents 2 states a,b,c;on a to b;on b to a;on c to c;never 2 a;");
+        due.is("by STUCK with BAD alike", z.mend(), 2);
+        // Fewer that starve do not outweigh one that is stuck: without rule 0 nobody comes to want.
+        ProtocolAtlas u = Due.of("agents 2 states a,b,c;on a to b;on b to b;on b to c;on c to a;wants b c;");
+        due.is("without(0, 3)", u.without(0, 3), 1);
+        due.is("without(0, 4)", u.without(0, 4), 0);
+        due.is("without(1, 3)", u.without(1, 3), 0);
+        due.is("without(2, 4)", u.without(2, 4), 4);
+        due.is("STUCK ahead of STARVE", u.mend(), 1);
     }
 
     private static void p20OfTheHome() {
@@ -1288,6 +1417,30 @@ public final class EdgeCallTest {
         due.is("without a table", y.could(0), NONE);
     }
 
+    private static void p28BehindAnotherTable() {
+        due.at("28 COULD is of the latest table, the latest see(), THE WALK as it is");
+        ProtocolAtlas x = Due.of(TOGGLE);
+        Due.feed(x, 0, 0, 1, 2);
+        x.see(2);
+        due.is("could(0)", x.could(0), 2);
+        due.is("could(-1)", x.could(NONE), 1);
+        Due.feed(x, ONEWAY);
+        x.table();
+        due.is("another table", x.could(0), 0);
+        due.is("another table", x.could(NONE), 1);
+        due.is("tells(1)", x.tells(1), 1);
+        Due.feed(x, 0, 1);
+        x.see(2);
+        due.is("another see()", x.could(0), 3);
+        Due.feed(x, 2, 1);
+        x.see(2);
+        due.is("another see()", x.could(0), 2);
+        x.move(0, 0);
+        due.is("behind a move", x.could(0), 4);
+        x.undo();
+        due.is("undone", x.could(0), 2);
+    }
+
     private static void p29WithoutAny() {
         due.at("29 NONE without any");
         ProtocolAtlas x = Due.of(TOGGLE);
@@ -1315,6 +1468,24 @@ public final class EdgeCallTest {
         ProtocolAtlas y = new ProtocolAtlas();
         due.is("without a table", y.tells(0), NONE);
         due.is("without a table", y.tells(1), NONE);
+    }
+
+    private static void p29AllAgents() {
+        due.at("29 by the number of AGENTS in a STATE: all of them, too");
+        for (int agents = 2; agents <= 4; agents++) {
+            ProtocolAtlas x = Due.of("agents " + agents + " states i,w;on i to w;on i to i;");
+            due.is("all in i", x.tells(0), 0);
+            due.is("all in i", x.tells(1), 1);
+            Due.feed(x, 1, 0);
+            x.see(0);
+            due.is("none in w", x.could(NONE), 1);
+            x.jump(x.has(5) - 1);
+            Due.feed(x, 1, agents);
+            x.see(0);
+            due.is("all in w", x.could(NONE), 1);
+            due.is("all in w", x.tells(0), 0);
+            due.is("all in w", x.tells(1), 1);
+        }
     }
 
     private static void p30NoneSuch() {
@@ -1525,6 +1696,43 @@ public final class EdgeCallTest {
         ProtocolAtlas z = Due.of("agents 2 states i,w;on w to i;");
         Due.feed(z, imageOf(255, 1, 255, 255, 255, 0, 255, 255, 255));
         refused(z, 5, "on() of w", () -> !z.on());
+    }
+
+    /** Whichever one byte of an image is another one, it is one only if that is a world that is reached, too. */
+    private static void p34AnyOtherByte() {
+        due.at("34 AN IMAGE of this TABLE, of a WORLD that is REACHED: each byte, each value");
+        anyOtherByte(LOCK, 16);
+        anyOtherByte("agents 2 states a,b,c,d,e,f;home s,t,u,v,w,x;messages m,n,o,p,q,r;on a to a sends m;on a to b sends n;"
+                + "at s with m to t replies m;at t with n to u replies n;at t with m to u replies n;", 0);
+        anyOtherByte("agents 2 states e,f,a;on e to f;", 4);
+    }
+
+    private static void anyOtherByte(String text, int worlds) {
+        ProtocolAtlas x = Due.of(text);
+        java.util.Set<String> reached = new java.util.HashSet<>();
+        java.util.List<int[]> images = new java.util.ArrayList<>();
+        for (int w = 0; w < x.has(5); w++) {
+            x.jump(w);
+            int[] i = Due.written(x, x.image());
+            int[] turned = imageOf(i[0], i[5], i[6], i[7], i[8], i[1], i[2], i[3], i[4]);
+            images.add(i);
+            reached.add(java.util.Arrays.toString(i));
+            reached.add(java.util.Arrays.toString(turned));
+        }
+        due.is("there are some", reached.size(), worlds > 0 ? worlds : x.has(6));
+        for (int[] image : images) {
+            for (int k = 0; k < 9; k++) {
+                ProtocolAtlas y = Due.of(text);
+                for (int b = 0; b < 256; b += b < 20 || b > 240 ? 1 : 7) {
+                    int[] bytes = java.util.Arrays.copyOf(image, 9);
+                    bytes[k] = b;
+                    bytes = imageOf(bytes);
+                    String shown = java.util.Arrays.toString(bytes);
+                    Due.feed(y, bytes);
+                    due.is("on() of " + shown, y.on(), reached.contains(shown));
+                }
+            }
+        }
     }
 
     private static void p34RefusedAllStays() {

@@ -50,6 +50,8 @@ public final class EdgeTextTest {
         firstAlongTheText();
         tooManyWorlds();
         tooManyWorldsOnlyIfNothingElse();
+        fullTapes();
+        nothingIsLeftOfAnother();
         due.finish();
     }
 
@@ -677,5 +679,81 @@ public final class EdgeTextTest {
         bad(ONE_MORE + "order kept", 1, n + 10);
         // It is counted by all that is told, also behind the rows.
         bad(ONE_MORE + "never 1 a;", 6, n + 10);
+    }
+
+    private static void fullTapes() {
+        due.at("I texts of 1600 bytes");
+        String text = "agents 2 states i;";
+        good(text + " ".repeat(1600 - text.length()), 1);
+        good(" ".repeat(1600 - text.length()) + text, 1);
+        bad(" ".repeat(1599) + "?", 1, 1599);
+        bad(text + " ".repeat(1599 - text.length()) + "?", 1, 1599);
+        bad("?".repeat(1600), 1, 0);
+        bad("a".repeat(1600), 1, 0);
+        bad("9".repeat(1600), 1, 0);
+        bad("agents 2 states " + "b".repeat(1584), 1, 22);
+        bad("agents " + "2".repeat(1593), 1, 8);
+        String head = "agents 2 states i,w;home s;messages m;";
+        String rows = "at s with m to s replies m tells m some w;".repeat(16);
+        due.is("has(4)", good(head + rows + "\n".repeat(1600 - head.length() - rows.length()), 19).has(4), 16);
+    }
+
+    /** Whatever was read ahead of it, a table is what its own text tells. */
+    private static void nothingIsLeftOfAnother() {
+        due.at("I a table is what its own text tells");
+        String rich = "agents 4 states a,b,c,d,e,f;home g,j;messages p,q,r,s,t,u;order loose;never 1 a and 1 b and 1 c;"
+                + "never 1 a;never 1 b;never 1 a and 1 a;wants a b;" + "at g with p to g replies q tells r some b;".repeat(15)
+                + "on f with u to e sends t;";
+        String plain = "agents 2 states a,b,c;on a to a;on a to b;never 2 c;";
+        String ask = "agents 2 states a;home s;messages m,n;on a to a sends m;on a to a sends n;at s with m to s replies m;"
+                + "at s with n to s replies n;on a with m to a;";
+        // A text may be read where the one ahead was, or the one ahead of that; a refused one, too.
+        String[][] ahead = {{rich}, {rich, plain}, {rich, ask}, {rich, rich}, {rich + "?"}, {rich, rich + "?"},
+            {rich, plain, rich + "on"}, {rich, plain, rich + "never 9 a;"}};
+        for (String[] texts : ahead) {
+            ProtocolAtlas x = new ProtocolAtlas();
+            for (String text : texts) {
+                Due.feed(x, text);
+                x.table();
+            }
+            Due.feed(x, plain);
+            due.is("table()", x.table(), 4);
+            isPlain(x);
+            ProtocolAtlas y = new ProtocolAtlas();
+            for (String text : texts) {
+                Due.feed(y, text);
+                y.table();
+            }
+            Due.feed(y, ask);
+            due.is("table()", y.table(), 8);
+            due.is("order kept: m came second", takeSecond(y), 0);
+        }
+    }
+
+    private static void isPlain(ProtocolAtlas x) {
+        int[] has = {2, 3, 0, 0, 2, 3, 4, 2, 8, 0, 1, 3, 0, 0};
+        for (int what = 0; what < has.length; what++) {
+            due.is("has(" + what + ")", x.has(what), has[what]);
+        }
+        for (int r = 0; r < 2; r++) {
+            int[] rule = {0, 0, NONE, r, NONE, NONE, NONE, 0};
+            for (int what = 0; what < 8; what++) {
+                due.is("rule(" + r + ", " + what + ")", x.rule(r, what), rule[what]);
+            }
+        }
+        due.is("rule(2, 0)", x.rule(2, 0), NONE);
+        due.is("starving(0)", x.starving(0), 0);
+        due.is("starving(1)", x.starving(1), 0);
+        due.is("parts", x.part(2, 1), 2);
+        due.is("parts", x.part(2, 0), 1);
+        due.is("parts", x.part(3, 0), NONE);
+        due.is("world(1, 6)", x.world(1, 6), 1);
+        due.is("chance(1)", x.chance(1), 1);
+        // By the seed until both are in b, where no rule is: a to a may come ahead of that.
+        for (int k = 0; k < 40; k++) {
+            x.chance(100);
+        }
+        due.is("stuck", x.now(NONE, 1), 2);
+        due.is("chance(100)", x.chance(100), 0);
     }
 }

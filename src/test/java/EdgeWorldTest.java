@@ -15,6 +15,7 @@ public final class EdgeWorldTest {
         inTwoAtMostByReplies();
         inTwoAtMostByTells();
         outOneAtMost();
+        sixOfEach();
         onIfInTheState();
         withOnlyIfTaken();
         takenGoes();
@@ -43,6 +44,7 @@ public final class EdgeWorldTest {
         badAllCounts();
         badByOneNever();
         badNumbersBeyondTheAgents();
+        badFullOfCounts();
         stuck();
         theWayIsShortest();
         theWayIsLeast();
@@ -51,19 +53,23 @@ public final class EdgeWorldTest {
         partEnds();
         starves();
         starvesNoneAtAllToo();
+        starveAlike();
         leftOutNeedsAMove();
         leftOutByOwnRules();
         leftOutByRulesOnAlone();
         leftOutNeverInB();
+        leftOutBehindB();
         leftOutNoneAtAllToo();
         withoutWantsNobody();
         walkFirst();
         lastTwentyActs();
         drawsWrapAround();
         drawsByRuleThenAgent();
+        drawsOfManyRules();
         drawOfOne();
         noDrawWithoutMoves();
         withoutARule();
+        withoutStuckOnes();
         couldJustSoMany();
         telling();
         textOfAWorld();
@@ -193,6 +199,28 @@ public final class EdgeWorldTest {
         go(y, 0, 1);
         due.is("which has that MESSAGE then", y.now(1, 3), 1);
         due.is("not the other one", y.now(0, 3), NONE);
+    }
+
+    private static void sixOfEach() {
+        due.at("II the sixth STATE, HOME, MESSAGE in all places");
+        ProtocolAtlas x = Due.of("agents 2 states a,b,c,d,e,f;home g,j,k,l,m,n;messages o,p,q,r,s,t;on a to f sends t;"
+                + "at g with t to n replies t tells t;on f to f sends t;at n with t to n replies t;");
+        go(x, 0, 0, 1, 0, 2, 0, 3, 0, 2, 0);
+        isText("the walk", walk(x), "5 5,5,5,5 0,5,-1,-1");
+        isText("folded", spelled(x, x.now(NONE, 1)), "n a<t> f<t,t>!t");
+        go(x, 0, 1, 3, 1, 2, 1);
+        isText("full", walk(x), "5 5,5,5,5 5,5,5,5");
+        due.is("stands for one", x.world(x.now(NONE, 1), 1), 1);
+        due.is("stuck", x.world(x.now(NONE, 1), 4), 1);
+        due.is("the last by DEPTH", x.world(x.now(NONE, 1), 0), x.has(7));
+        int[] image = Due.written(x, x.image());
+        for (int k = 0; k < 9; k++) {
+            due.is("octet(" + k + ")", image[k], 5);
+        }
+        due.is("undo()", x.undo(), true);
+        Due.feed(x, image);
+        due.is("on()", x.on(), true);
+        isText("full", walk(x), "5 5,5,5,5 5,5,5,5");
     }
 
     private static void onIfInTheState() {
@@ -589,6 +617,25 @@ public final class EdgeWorldTest {
         due.is("4 of 4", Due.of("agents 4 states i;never 4 i;").has(9), 1);
     }
 
+    private static void badFullOfCounts() {
+        due.at("II BAD: 4 never of 3 COUNTS");
+        String[] nevers = {"never 1 a and 1 b and 1 c;", "never 2 d and 1 a and 1 b;", "never 1 b and 1 c and 1 d;",
+            "never 3 a and 1 d and 1 d;"};
+        String text = "agents 4 states a,b,c,d;on a to b;on b to c;on c to d;";
+        ProtocolAtlas x = Due.of(text + String.join("", nevers));
+        for (int w = 0; w < x.has(5); w++) {
+            int[] many = new int[4];
+            for (int a = 0; a < 4; a++) {
+                many[x.agent(w, a, 0)]++;
+            }
+            boolean bad = many[0] >= 1 && many[1] >= 1 && many[2] >= 1 || many[3] >= 2 && many[0] >= 1 && many[1] >= 1
+                    || many[1] >= 1 && many[2] >= 1 && many[3] >= 1 || many[0] >= 3 && many[3] >= 1;
+            due.is("world(" + w + ", 3)", x.world(w, 3), bad ? 1 : 0);
+        }
+        // With a b c 60, d d a b 12, with b c d 60, a a a d 4; 24 of a b c d are of two.
+        due.is("has(9)", x.has(9), 60 + 12 + 60 - 24 + 4);
+    }
+
     private static void stuck() {
         due.at("II STUCK is one from which no MOVE can be");
         due.is("no rules", Due.of("agents 3 states i;").has(10), 1);
@@ -730,6 +777,29 @@ public final class EdgeWorldTest {
         due.is("stuck, not in A", Due.of("agents 4 states a,b;wants b a;").starving(0), 0);
     }
 
+    private static void starveAlike() {
+        due.at("II an AGENT STARVES: alike ones alike, wherever they are put");
+        ProtocolAtlas x = Due.of("agents 4 states i,w,h;on i to w;on i to h;wants w h;");
+        for (int w = 0; w < x.has(5); w++) {
+            for (int a = 0; a < 4; a++) {
+                due.is("agent(" + w + ", " + a + ", 4)", x.agent(w, a, 4), x.agent(w, a, 0) == 1 ? 1 : 0);
+            }
+        }
+        // Of 81 worlds each agent is in w in a third.
+        due.is("starving(0)", x.starving(0), 4 * 27);
+        ProtocolAtlas y = Due.of("agents 4 states i,w,h;on i to w;on i to h;on w to w;wants w h;");
+        for (int w = 0; w < y.has(5); w++) {
+            for (int a = 0; a < 4; a++) {
+                due.is("agent(" + w + ", " + a + ", 5)", y.agent(w, a, 5), y.agent(w, a, 0) == 1 ? 1 : 0);
+            }
+        }
+        due.is("starving(1)", y.starving(1), 4 * 27);
+        // The first one that starves is far behind the first world.
+        ProtocolAtlas z = Due.of("agents 2 states a,b,c,d,e;on a to b;on b to c;on c to d;on d to e;wants e a;");
+        due.is("first(2)", z.first(2), worldOf(z, "- a e"));
+        due.is("its DEPTH", z.world(z.first(2), 0), 4);
+    }
+
     private static void leftOutNeedsAMove() {
         due.at("II LEFT OUT: a RING: .. and again by one MOVE at least");
         ProtocolAtlas x = Due.of("agents 2 states a,b;wants a b;");
@@ -775,6 +845,20 @@ public final class EdgeWorldTest {
         due.is("the RING is in B", y.starving(1), 0);
         ProtocolAtlas z = Due.of("agents 2 states a,b,c;on a to c;on c to c;on c to a;wants a b;");
         due.is("B is nowhere", z.starving(1), 4);
+    }
+
+    private static void leftOutBehindB() {
+        due.at("II LEFT OUT: .. it never being in B (from then on; it may have been there)");
+        ProtocolAtlas x = Due.of("agents 2 states s,t,u,b,a;on s to t;on t to u;on u to b;on b to a;on a to a;wants a b;");
+        for (int w = 0; w < x.has(5); w++) {
+            for (int a = 0; a < 2; a++) {
+                due.is("agent(" + w + ", " + a + ", 5)", x.agent(w, a, 5), x.agent(w, a, 0) == 4 ? 1 : 0);
+            }
+        }
+        due.is("first(3)", x.first(3), worldOf(x, "- s a"));
+        due.is("all together", x.starving(1), 10);
+        ProtocolAtlas y = Due.of("agents 2 states b,a;on b to a;on a to a;wants a b;");
+        due.is("B is the first STATE", y.starving(1), 4);
     }
 
     private static void leftOutNoneAtAllToo() {
@@ -903,6 +987,42 @@ public final class EdgeWorldTest {
         }
     }
 
+    /** Of a table with 16 rules, each step by the seed is looked for by can(). */
+    private static void drawsOfManyRules() {
+        due.at("III of all MOVES that can be: 16 RULES");
+        StringBuilder text = new StringBuilder("agents 4 states a,b,c,d;");
+        for (int r = 0; r < 16; r++) {
+            text.append("on ").append("abcd".charAt(r * 7 % 4)).append(" to ").append("abcd".charAt(r * 5 / 3 % 4)).append(";");
+        }
+        for (int seed = 0; seed < 6; seed++) {
+            ProtocolAtlas x = Due.of(text.toString());
+            x.seed(seed);
+            long drawn = seed;
+            for (int k = 0; k < 5; k++) {
+                int[] moves = movesOf(x);
+                drawn = next(drawn);
+                int move = moves[(int) (drawn / 64 % moves.length)];
+                int agent = move % 4;
+                due.is("chance(1)", x.chance(1), 1);
+                due.is("seed " + seed + ", draw " + k, x.now(agent, 0), x.rule(move / 4, 3));
+            }
+        }
+    }
+
+    private static int[] movesOf(ProtocolAtlas x) {
+        int[] moves = new int[64];
+        int many = 0;
+        for (int r = 0; r < x.has(4); r++) {
+            for (int a = 0; a < x.has(0); a++) {
+                if (x.can(r, a) == 1) {
+                    moves[many] = 4 * r + a;
+                    many++;
+                }
+            }
+        }
+        return java.util.Arrays.copyOf(moves, many);
+    }
+
     private static void drawOfOne() {
         due.at("III a DRAW of how many there are: of one, too");
         ProtocolAtlas x = Due.of("agents 2 states i,w;on i to w;");
@@ -953,6 +1073,20 @@ public final class EdgeWorldTest {
         }
         // mend() answers by the numbers that they have: without the last one b is not come to.
         due.is("mend()", Due.of("agents 2 states a,b;on a to a;on b to a;on a to b;never 1 b;").mend(), 2);
+    }
+
+    private static void withoutStuckOnes() {
+        due.at("III WITHOUT a RULE: STUCK ones are those from which no other RULE leads");
+        ProtocolAtlas x = Due.of("agents 2 states a,b,c;on a to b;on a to c;on c to c;on b to a;");
+        int[] stuck = {0, 0, 1, 1};
+        for (int r = 0; r < 4; r++) {
+            due.is("without(" + r + ", 3)", x.without(r, 3), stuck[r]);
+        }
+        ProtocolAtlas y = Due.of("agents 3 states a,b,c;on a to b;on a to c;on c to c;on b to b;");
+        // Without b to b: bbb. Without c to c: ccc.
+        due.is("without(3, 3)", y.without(3, 3), 1);
+        due.is("without(2, 3)", y.without(2, 3), 1);
+        due.is("without(3, 1)", y.without(3, 1), 27);
     }
 
     private static void couldJustSoMany() {
