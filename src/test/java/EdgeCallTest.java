@@ -61,6 +61,7 @@ public final class EdgeCallTest {
         p12NoneSuch();
         p13NoneIs();
         p13Others();
+        p13NoneOf600();
         p14NoneSuch();
         p15ZeroMovesToo();
         p16Others();
@@ -586,6 +587,19 @@ public final class EdgeCallTest {
         due.is("spell(599)", x.spell(599) > 0, true);
         Due.feed(x, Due.written(x, x.spell(599)));
         due.is("which()", x.which(), 599);
+    }
+
+    private static void p13NoneOf600() {
+        due.at("13 NONE when none is, of 600 FOLDED WORLDS");
+        ProtocolAtlas x = Due.of(FULL.substring(0, FULL.indexOf("never")).replace("on c to c;on c to c;", "on c to c;on b to b;"));
+        due.is("has(5)", x.has(5), 600);
+        for (int what = 0; what < 4; what++) {
+            due.is("first(" + what + ")", x.first(what), NONE);
+        }
+        due.is("has(9)", x.has(9), 0);
+        due.is("has(10)", x.has(10), 0);
+        due.is("part(0, 1)", x.part(0, 1), 0);
+        due.is("leads(599, 0, 3)", x.leads(599, 0, 3), NONE);
     }
 
     private static void p06BehindALargerTable() {
@@ -1702,8 +1716,9 @@ public final class EdgeCallTest {
     private static void p34AnyOtherByte() {
         due.at("34 AN IMAGE of this TABLE, of a WORLD that is REACHED: each byte, each value");
         anyOtherByte(LOCK, 16);
-        anyOtherByte("agents 2 states a,b,c,d,e,f;home s,t,u,v,w,x;messages m,n,o,p,q,r;on a to a sends m;on a to b sends n;"
-                + "at s with m to t replies m;at t with n to u replies n;at t with m to u replies n;", 0);
+        anyOtherByte("agents 2 states a,b,c,d,e,f;home s,t,u,v,w,x;messages m,n,o,p,q,r;on a to a sends m;on a to b;"
+                + "on b to b sends n;at s with m to t replies m;at t with m to u replies m;at t with n to u replies n;", 0);
+        anyOtherByte("agents 2 states i;home s,t,u;messages m;on i to i sends m;at s with m to t;at t with m to u;", 12);
         anyOtherByte("agents 2 states e,f,a;on e to f;", 4);
     }
 
@@ -1716,6 +1731,7 @@ public final class EdgeCallTest {
             int[] i = Due.written(x, x.image());
             int[] turned = imageOf(i[0], i[5], i[6], i[7], i[8], i[1], i[2], i[3], i[4]);
             images.add(i);
+            images.add(turned);
             reached.add(java.util.Arrays.toString(i));
             reached.add(java.util.Arrays.toString(turned));
         }

@@ -704,7 +704,7 @@ public final class EdgeTextTest {
         String rich = "agents 4 states a,b,c,d,e,f;home g,j;messages p,q,r,s,t,u;order loose;never 1 a and 1 b and 1 c;"
                 + "never 1 a;never 1 b;never 1 a and 1 a;wants a b;" + "at g with p to g replies q tells r some b;".repeat(15)
                 + "on f with u to e sends t;";
-        String plain = "agents 2 states a,b,c;on a to a;on a to b;never 2 c;";
+        String plain = "agents 2 states a,b,c;on a to a;on a to b;never 2 b;";
         String ask = "agents 2 states a;home s;messages m,n;on a to a sends m;on a to a sends n;at s with m to s replies m;"
                 + "at s with n to s replies n;on a with m to a;";
         // A text may be read where the one ahead was, or the one ahead of that; a refused one, too.
@@ -731,7 +731,7 @@ public final class EdgeTextTest {
     }
 
     private static void isPlain(ProtocolAtlas x) {
-        int[] has = {2, 3, 0, 0, 2, 3, 4, 2, 8, 0, 1, 3, 0, 0};
+        int[] has = {2, 3, 0, 0, 2, 3, 4, 2, 8, 1, 1, 3, 0, 0};
         for (int what = 0; what < has.length; what++) {
             due.is("has(" + what + ")", x.has(what), has[what]);
         }

@@ -868,6 +868,7 @@ public final class EdgeWorldTest {
         due.is("it comes to the RING", x.agent(0, 0, 5), 1);
         due.is("not in A", x.agent(worldOf(x, "- a c"), 1, 5), 0);
         due.is("in A that is B", Due.of("agents 2 states a;on a to a;wants a a;").starving(1), 0);
+        due.is("out of A that is B", Due.of("agents 2 states a,c;on a to c;on c to c;wants a a;").starving(1), 0);
     }
 
     private static void withoutWantsNobody() {
