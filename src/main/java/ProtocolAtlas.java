@@ -2094,7 +2094,9 @@ public final class ProtocolAtlas {
                     there[atlas.target(m)] = true;
                 }
             }
-            System.arraycopy(there, 0, here, 0, atlas.worlds);
+            for (int w = 0; w < atlas.worlds; w++) {
+                here[w] = there[w];
+            }
         }
 
         private boolean isAsSeen(Atlas atlas, int world) {

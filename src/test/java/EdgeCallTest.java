@@ -1251,6 +1251,14 @@ public final class EdgeCallTest {
         due.is("MOVES since", x.could(0), 1);
         x.chance(1);
         due.is("the fourth draw of 321", x.now((int) (next(next(next(next(321)))) / 64 % 2), 0), 1);
+        for (int seed = 0; seed < 20; seed++) {
+            ProtocolAtlas y = Due.of("agents 4 states i,w;on i to w;");
+            y.seed(seed);
+            y.chance(1);
+            due.is("undo()", y.undo(), true);
+            y.chance(1);
+            due.is("the second draw of " + seed, y.now((int) (next(next(seed)) / 64 % 4), 0), 1);
+        }
     }
 
     private static void p26BelowZero() {
@@ -1307,6 +1315,16 @@ public final class EdgeCallTest {
         Due.feed(y, 0, 2, 0, 2, 0, 2, 0, 2, 0, 2, 1, 0);
         due.is("six rows", y.see(0), 6);
         due.is("could(-1)", y.could(NONE), 1);
+        // What is SEEN takes the place of what was, fewer rows that of more, too.
+        Due.feed(y, 0, 1, 1, 1);
+        due.is("two rows", y.see(1), 2);
+        due.is("has(13)", y.has(13), 2);
+        due.is("could(-1)", y.could(NONE), 1);
+        Due.feed(y, 0, 2);
+        due.is("one row", y.see(0), 1);
+        due.is("has(13)", y.has(13), 1);
+        due.is("could(-1)", y.could(NONE), 1);
+        due.is("could(0)", y.could(0), 0);
     }
 
     private static void p27StatesAndNumbers() {

@@ -57,6 +57,7 @@ public final class EdgeWorldTest {
         leftOutNeedsAMove();
         leftOutByOwnRules();
         leftOutByRulesOnAlone();
+        leftOutAsManyAsThereAre();
         leftOutNeverInB();
         leftOutBehindB();
         leftOutNoneAtAllToo();
@@ -837,6 +838,23 @@ public final class EdgeWorldTest {
         due.is("it does not STARVE", x.starving(0), 0);
     }
 
+    private static void leftOutAsManyAsThereAre() {
+        due.at("II LEFT OUT: a RING: WORLDS .. (as many as there are so)");
+        // While its message waits, the other one's to and fro would do; but to these WORLDS belong those with its answer.
+        String joined = "agents 2 states v,x;home s;messages m;on v to v sends m;at s with m to s replies m;"
+                + "on v with m to v;";
+        ProtocolAtlas x = Due.of(joined + "on v with m to x;on x to x;wants v x;");
+        due.is("a few of them are no RING", x.starving(1), 0);
+        due.is("first(3)", x.first(3), NONE);
+        ProtocolAtlas y = Due.of(joined + "on x to x;wants v x;");
+        due.is("as many as there are", y.starving(1), 2 * y.has(6));
+        // Without a way back from its answer those in which its message waits are all that there are.
+        ProtocolAtlas z = Due.of("agents 2 states i,v,x;home s;messages m;on i to v sends m;at s with m to s replies m;"
+                + "on v with m to x;on i to i;wants v x;");
+        due.is("no others belong to them", z.agent(worldOf(z, "s i v!m"), 1, 5), 1);
+        due.is("the answer is there", z.agent(worldOf(z, "s i v<m>"), 1, 5), 0);
+    }
+
     private static void leftOutNeverInB() {
         due.at("II LEFT OUT: .. it never being in B, .. it not in B in any of them");
         ProtocolAtlas x = Due.of("agents 2 states a,b,c;on a to b;on b to c;on c to c;wants a b;");
@@ -1046,6 +1064,19 @@ public final class EdgeWorldTest {
         x.chance(1);
         due.is("the first draw of 5", x.now((int) (next(5) / 64 % 2), 0), 1);
         due.is("they differ", next(5) / 64 % 2 != next(next(5)) / 64 % 2, true);
+        // Behind the last MOVE that can be there is no DRAW either, however many are asked for.
+        for (int n : new int[] {2, 3, 4, 100}) {
+            for (int seed = 0; seed < 12; seed++) {
+                ProtocolAtlas y = Due.of("agents 2 states i,w;on i to w;");
+                y.seed(seed);
+                due.is("only two can be", y.chance(n), 2);
+                due.is("none can be", y.chance(n), 0);
+                Due.feed(y, "agents 4 states i,w;on i to w;");
+                y.table();
+                y.chance(1);
+                due.is("the third draw of " + seed, y.now((int) (next(next(next(seed))) / 64 % 4), 0), 1);
+            }
+        }
     }
 
     private static void withoutARule() {
